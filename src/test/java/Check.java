@@ -4,18 +4,18 @@ final class Check {
 
     private static int seen = 0;
     private static int wrong = 0;
+    private static String sentence = "";
+    private static int seenOfSentence = 0;
+    private static int wrongOfSentence = 0;
 
     private Check() {
     }
 
     static void due(String call, long got, long want) {
         seen++;
-        if (got == want) {
-            return;
-        }
-        wrong++;
-        if (wrong <= MOST_PRINTED) {
-            System.out.println(call + " answered " + got + ", due is " + want);
+        seenOfSentence++;
+        if (got != want) {
+            tell(call + " answered " + got + ", due is " + want);
         }
     }
 
@@ -26,6 +26,23 @@ final class Check {
     static void due(String call, Object got, Object want) {
         boolean same = got.equals(want);
         due(same ? call : call + ": " + got + " instead of " + want, same, true);
+    }
+
+    /** Runs the test of one sentence of the document, and names the sentence if it does not hold. */
+    static void sentence(String text, Runnable test) {
+        sentence = text;
+        seenOfSentence = 0;
+        wrongOfSentence = 0;
+        try {
+            test.run();
+        } catch (RuntimeException thrown) {
+            tell("a call threw " + thrown);
+        }
+        if (seenOfSentence == 0) {
+            tell("nothing was checked");
+        }
+        sentence = "";
+        wrongOfSentence = 0;
     }
 
     static boolean allRight() {
@@ -43,5 +60,16 @@ final class Check {
             System.exit(1);
         }
         System.out.println(seen + " answers are as due");
+    }
+
+    private static void tell(String fault) {
+        wrong++;
+        wrongOfSentence++;
+        if (wrongOfSentence == 1 && !sentence.isEmpty()) {
+            System.out.println("broken: " + sentence);
+        }
+        if (wrongOfSentence <= MOST_PRINTED) {
+            System.out.println(fault);
+        }
     }
 }

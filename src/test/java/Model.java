@@ -26,6 +26,24 @@ final class Model {
         this.terminals = Math.max(1, Math.min(8, terminals));
     }
 
+    /** A parsed model with the rules and the input of x, whatever its numbers of symbols. */
+    static Model of(LeftCorner x) {
+        Model model = new Model(8, 8);
+        for (int r = 0; r < x.ruleCount(); r++) {
+            model.addRule(x.ruleSymbol(r, 0), x.ruleSymbol(r, 1), x.ruleSymbol(r, 2), x.ruleSymbol(r, 3));
+        }
+        for (int i = 0; i < x.inputLength(); i++) {
+            model.addToken(x.inputToken(i));
+        }
+        model.parse();
+        return model;
+    }
+
+    /** N itself, where count() saturates. */
+    BigInteger exactCount() {
+        return exact;
+    }
+
     int addRule(int lhs, int a, int b, int c) {
         if (!isNonterminal(lhs) || !isValid(a) || b != -1 && !isValid(b) || c != -1 && !isValid(c) || b == -1 && c != -1) {
             return -2;
