@@ -19,7 +19,8 @@ public final class BoundaryAddRuleTest {
         Check.sentence("2: b = NONE means m = 1.", BoundaryAddRuleTest::oneSymbol);
         Check.sentence("2: c = NONE with b given means m = 2.", BoundaryAddRuleTest::twoSymbols);
         Check.sentence("2: otherwise m = 3.", BoundaryAddRuleTest::threeSymbols);
-        Check.sentence("2.1: lhs is not a nonterminal code below NT: answers ERR_SYMBOL.", BoundaryAddRuleTest::wrongLhs);
+        Check.sentence("2.1: lhs is not a nonterminal code below NT: answers ERR_SYMBOL.",
+            BoundaryAddRuleTest::wrongLhs);
         Check.sentence("2.1: a is not valid: answers ERR_SYMBOL.", BoundaryAddRuleTest::wrongFirst);
         Check.sentence("2.1: b is neither NONE nor valid: answers ERR_SYMBOL.", BoundaryAddRuleTest::wrongSecond);
         Check.sentence("2.1: c is neither NONE nor valid: answers ERR_SYMBOL.", BoundaryAddRuleTest::wrongThird);
@@ -36,12 +37,14 @@ public final class BoundaryAddRuleTest {
         Check.sentence("2: A refusal changes nothing (ERR_SYMBOL).", BoundaryAddRuleTest::symbolRefusal);
         Check.sentence("2: A refusal changes nothing (ERR_FULL).", BoundaryAddRuleTest::fullRefusal);
         Check.sentence("2: A refusal changes nothing (ERR_CYCLE).", BoundaryAddRuleTest::cycleRefusal);
-        Check.sentence("2: the rule is stored with number ruleCount() (as it was before the call).", BoundaryAddRuleTest::storedAtTheEnd);
+        Check.sentence("2: the rule is stored with number ruleCount() (as it was before the call).",
+            BoundaryAddRuleTest::storedAtTheEnd);
         Check.sentence("2: ruleCount() grows by one.", BoundaryAddRuleTest::growsByOne);
         Check.sentence("2: the PARSED flag is cleared.", BoundaryAddRuleTest::clearsParsed);
         Check.sentence("2: any selection is cleared.", BoundaryAddRuleTest::clearsSelection);
         Check.sentence("2: that number (0..MAX_RULES-1) is answered.", BoundaryAddRuleTest::answersTheNumber);
-        Check.sentence("2: A rule with m = 1 whose symbol is a terminal is never a unit rule.", BoundaryAddRuleTest::terminalsAreNoUnitRules);
+        Check.sentence("2: A rule with m = 1 whose symbol is a terminal is never a unit rule.",
+            BoundaryAddRuleTest::terminalsAreNoUnitRules);
         Check.sentence("2: and is never refused for a cycle.", BoundaryAddRuleTest::terminalsCloseNoCycle);
         Check.sentence("2: An identical copy of a held rule is accepted.", BoundaryAddRuleTest::copies);
         Check.sentence("2: (subject to the conditions above).", BoundaryAddRuleTest::copyInAFullTable);
@@ -293,13 +296,14 @@ public final class BoundaryAddRuleTest {
     }
 
     private static void fullRefusal() {
-        Situations.changesNothing("addRule on a full table", x -> {
-            if (x.ruleCount() == LeftCorner.MAX_RULES) {
-                unit(x, 0, 8, ERR_FULL);
-                due(x, 1, 9, 0, 1, ERR_FULL);
-                unit(x, 1, 0, ERR_FULL);
-            }
-        });
+        int[][] refused = {{0, 8, NONE, NONE}, {1, 9, 0, 1}, {1, 0, NONE, NONE}};
+        for (int[] rule : refused) {
+            Situations.changesNothing("addRule on a full table", x -> {
+                if (x.ruleCount() == LeftCorner.MAX_RULES) {
+                    due(x, rule[0], rule[1], rule[2], rule[3], ERR_FULL);
+                }
+            });
+        }
         // Full, but without a selection or a parse.
         for (int parses = 0; parses < 2; parses++) {
             LeftCorner x = fullTable();
@@ -318,7 +322,6 @@ public final class BoundaryAddRuleTest {
         Situations.changesNothing("addRule(1, 1, -1, -1)", x -> {
             if (x.ruleCount() < LeftCorner.MAX_RULES) {
                 unit(x, 1, 1, ERR_CYCLE);
-                unit(x, 0, 0, ERR_CYCLE);
             }
         });
         Situations.changesNothing("addRule(1, 0, -1, -1)", x -> {
@@ -454,12 +457,14 @@ public final class BoundaryAddRuleTest {
         for (int n = 0; n <= 12; n++) {
             LeftCorner x = fresh();
             for (int i = 0; i < n; i++) {
-                Grammars.tokens(x, i % 2);
+                Grammars.tokens(x, i % 3 == 0 ? 1 : 0);
             }
-            List<Integer> input = State.input(x);
             for (int r = 0; r < 24; r++) {
                 due(x, r % 3, 8, 9, r % 3, r);
-                Check.due("input", State.input(x), input);
+                Check.due("inputLength()", x.inputLength(), n);
+                for (int i = 0; i < n; i++) {
+                    Check.due("inputToken(" + i + ")", x.inputToken(i), i % 3 == 0 ? 1 : 0);
+                }
             }
         }
     }

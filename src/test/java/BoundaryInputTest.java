@@ -27,9 +27,11 @@ public final class BoundaryInputTest {
         Check.sentence("7: clears any selection.", BoundaryInputTest::clearsSelection);
         Check.sentence("7: even when the input was already empty.", BoundaryInputTest::clearsWhenEmpty);
         Check.sentence("7: Rules stay unchanged.", BoundaryInputTest::clearingKeepsRules);
-        Check.sentence("8: inputLength() answers the number of input tokens, 0..MAX_INPUT.", BoundaryInputTest::everyLength);
+        Check.sentence("8: inputLength() answers the number of input tokens, 0..MAX_INPUT.",
+            BoundaryInputTest::everyLength);
         Check.sentence("8: Changes nothing.", BoundaryInputTest::lengthChangesNothing);
-        Check.sentence("9: inputToken(i) answers the token number t (not its code) at position i.", BoundaryInputTest::tokenNumbers);
+        Check.sentence("9: inputToken(i) answers the token number t (not its code) at position i.",
+            BoundaryInputTest::tokenNumbers);
         Check.sentence("9: or NONE if i is not in 0..n-1.", BoundaryInputTest::noSuchPosition);
         Check.sentence("9: Changes nothing.", BoundaryInputTest::readingChangesNothing);
         Check.finish();
@@ -97,7 +99,6 @@ public final class BoundaryInputTest {
     private static void fullRefusal() {
         Situations.changesNothing("addToken on a full input", x -> {
             if (x.inputLength() == LeftCorner.MAX_INPUT) {
-                token(x, 0, LeftCorner.ERR_FULL);
                 token(x, 1, LeftCorner.ERR_FULL);
             }
         });
@@ -153,14 +154,16 @@ public final class BoundaryInputTest {
     }
 
     private static void tokenKeepsRules() {
-        LeftCorner x = new LeftCorner(2, 2);
-        for (int r = 0; r < 24; r++) {
-            Grammars.rule(x, r % 2, 8, r % 2, 9);
-        }
-        List<Integer> rules = State.rules(x);
-        for (int n = 1; n <= 12; n++) {
-            token(x, n % 2, n);
-            Check.due("rules", State.rules(x), rules);
+        for (int number : new int[] {0, 1, 12, 23, 24}) {
+            LeftCorner x = new LeftCorner(2, 2);
+            for (int r = 0; r < number; r++) {
+                Grammars.rule(x, 1 - r % 2, 8, r % 2, 9);
+            }
+            List<Integer> rules = State.rules(x);
+            for (int n = 1; n <= 12; n++) {
+                token(x, n % 2, n);
+                Check.due("rules", State.rules(x), rules);
+            }
         }
     }
 
@@ -277,10 +280,8 @@ public final class BoundaryInputTest {
     }
 
     private static void readingChangesNothing() {
-        Situations.changesNothing("inputToken", x -> {
-            for (int i = -2; i < 14; i++) {
-                x.inputToken(i);
-            }
-        });
+        for (int i : new int[] {-1, 0, 3, 11, 12}) {
+            Situations.changesNothing("inputToken(" + i + ")", x -> x.inputToken(i));
+        }
     }
 }

@@ -1,4 +1,5 @@
 import java.math.BigInteger;
+import java.util.Arrays;
 import java.util.List;
 
 /** The boundary cases of "Parse tree" and of promises 10 and 11, parse and count, sentence by sentence. */
@@ -14,9 +15,12 @@ public final class BoundaryParseTest {
         Check.sentence("Parse tree: and together equal the parent's span.", BoundaryParseTest::together);
         Check.sentence("Parse tree: The root has symbol 0.", BoundaryParseTest::rootSymbol);
         Check.sentence("Parse tree: The root has span [0, n).", BoundaryParseTest::rootSpan);
-        Check.sentence("Parse tree: Two trees are the same iff they have the same shape, rules and spans.", BoundaryParseTest::different);
+        Check.sentence("Parse tree: Two trees are the same iff they have the same shape, rules and spans.",
+            BoundaryParseTest::different);
         Check.sentence("Parse tree: N = 0 when n = 0.", BoundaryParseTest::emptyInput);
         Check.sentence("Rules: every input has finitely many parse trees.", BoundaryParseTest::allUnitRulesThatFit);
+        Check.sentence("What it is: N and the tree of each rank are defined purely by the held rules and the held input.",
+            BoundaryParseTest::onlyRulesAndInput);
         Check.sentence("10: parses the current input with the current rules.", BoundaryParseTest::currentRulesAndInput);
         Check.sentence("10: and is never refused.", BoundaryParseTest::neverRefused);
         Check.sentence("10: It sets PARSED.", BoundaryParseTest::setsParsed);
@@ -29,14 +33,20 @@ public final class BoundaryParseTest {
         Check.sentence("10: and CAP exactly when N >= CAP.", BoundaryParseTest::cap);
         Check.sentence("10: CAP also where N, in an int or a long, would wrap around.", BoundaryParseTest::wrapAround);
         Check.sentence("10: for any answer c with 0 < c < CAP, c equals N.", BoundaryParseTest::exact);
-        Check.sentence("10: Calling parse() again with no change in between answers the same value.", BoundaryParseTest::again);
-        Check.sentence("11: count() answers the value the last parse() answered, if PARSED.", BoundaryParseTest::countIsTheAnswer);
+        Check.sentence("10: Calling parse() again with no change in between answers the same value.",
+            BoundaryParseTest::again);
+        Check.sentence("11: count() answers the value the last parse() answered, if PARSED.",
+            BoundaryParseTest::countIsTheAnswer);
         Check.sentence("11: otherwise ERR_STATE.", BoundaryParseTest::countBeforeParse);
         Check.sentence("11: Changes nothing.", BoundaryParseTest::countChangesNothing);
-        Check.sentence("11: A successful addRule makes it answer ERR_STATE until the next parse().", BoundaryParseTest::countAfterRule);
-        Check.sentence("11: A successful addToken makes it answer ERR_STATE until the next parse().", BoundaryParseTest::countAfterToken);
-        Check.sentence("11: Any clearInput makes it answer ERR_STATE until the next parse().", BoundaryParseTest::countAfterClear);
-        Check.sentence("11: A refused addRule or addToken is not a successful one.", BoundaryParseTest::countAfterRefusals);
+        Check.sentence("11: A successful addRule makes it answer ERR_STATE until the next parse().",
+            BoundaryParseTest::countAfterRule);
+        Check.sentence("11: A successful addToken makes it answer ERR_STATE until the next parse().",
+            BoundaryParseTest::countAfterToken);
+        Check.sentence("11: Any clearInput makes it answer ERR_STATE until the next parse().",
+            BoundaryParseTest::countAfterClear);
+        Check.sentence("11: A refused addRule or addToken is not a successful one.",
+            BoundaryParseTest::countAfterRefusals);
         Check.finish();
     }
 
@@ -191,6 +201,37 @@ public final class BoundaryParseTest {
         }
     }
 
+    /** One object comes to its rules and input straight, the other by detours. */
+    private static void onlyRulesAndInput() {
+        LeftCorner straight = new LeftCorner(3, 2);
+        LeftCorner detours = new LeftCorner(3, 2);
+        int[][] rules = {{0, 0, 0}, {0, 1}, {1, 2}, {2, 8}, {0, 8, 9}, {1, 9}, {0, 1, 9, 0}};
+        for (int[] rule : rules) {
+            Grammars.rule(straight, rule[0], Arrays.copyOfRange(rule, 1, rule.length));
+            Grammars.rule(detours, rule[0], Arrays.copyOfRange(rule, 1, rule.length));
+            Check.due("refused", detours.addRule(2, 8, NONE, 8), LeftCorner.ERR_SYMBOL);
+            Grammars.repeat(detours, 12, rule[0] % 2);
+            detours.parse();
+            detours.selectTree(0);
+            detours.addRule(1, 1, NONE, NONE);
+            detours.clearInput();
+        }
+        int[] input = {0, 1, 0, 0, 1, 1, 0};
+        for (int t : input) {
+            Grammars.tokens(straight, t);
+            Grammars.tokens(detours, t);
+            detours.parse();
+            detours.selectTree(detours.count() / 2);
+            detours.addToken(2);
+        }
+        Check.due("parse()", straight.parse(), detours.parse());
+        Check.due("there are trees to compare", straight.count() > 20, true);
+        for (int rank = 0; rank < straight.count(); rank++) {
+            Check.due("selectTree(" + rank + ")", straight.selectTree(rank), detours.selectTree(rank));
+            Check.due("tree " + rank, State.selection(straight), State.selection(detours));
+        }
+    }
+
     private static void currentRulesAndInput() {
         LeftCorner x = new LeftCorner(2, 2);
         parse("no rule, no token", x, 0);
@@ -300,7 +341,6 @@ public final class BoundaryParseTest {
             List<Integer> rules = State.rules(x);
             List<Integer> input = State.input(x);
             x.parse();
-            x.parse();
             Check.due(Situations.name(which) + ", rules", State.rules(x), rules);
             Check.due(Situations.name(which) + ", input", State.input(x), input);
         }
@@ -360,7 +400,7 @@ public final class BoundaryParseTest {
 
     /** Any number of nonterminal 2, which has 16 rules for a and two for b. */
     private static LeftCorner powersOfTwo() {
-        LeftCorner x = new LeftCorner(4, 2);
+        LeftCorner x = new LeftCorner(4, 3);
         Grammars.rule(x, 0, 1);
         Grammars.rule(x, 1, 1, 2);
         Grammars.rule(x, 1, 2);
@@ -384,6 +424,11 @@ public final class BoundaryParseTest {
         LeftCorner more = powersOfTwo();
         oneTreeMore(more);
         saturates(more, two.pow(32).add(BigInteger.ONE), 0, 0, 0, 0, 0, 0, 0, 0);
+        // Both factors of one product: 2^16 each, then each above the cap by itself.
+        LeftCorner halves = powersOfTwo();
+        Grammars.rule(halves, 0, 1, 10, 1);
+        saturates(halves, two.pow(32), 0, 0, 0, 0, 2, 0, 0, 0, 0);
+        saturates(halves, two.pow(40), 0, 0, 0, 0, 0, 2, 0, 0, 0, 0, 0);
         LeftCorner most = new LeftCorner(3, 1);
         Grammars.copies(most, 4, 0, 1);
         Grammars.copies(most, 4, 1, 1, 2);

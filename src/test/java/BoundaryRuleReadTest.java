@@ -9,7 +9,8 @@ public final class BoundaryRuleReadTest {
     };
 
     public static void main(String[] args) {
-        Check.sentence("3: ruleCount() answers the number of rules held, 0..MAX_RULES.", BoundaryRuleReadTest::everyCount);
+        Check.sentence("3: ruleCount() answers the number of rules held, 0..MAX_RULES.",
+            BoundaryRuleReadTest::everyCount);
         Check.sentence("3: Changes nothing.", BoundaryRuleReadTest::countChangesNothing);
         Check.sentence("4: at pos 0 the lhs code.", BoundaryRuleReadTest::leftHandSide);
         Check.sentence("4: at pos 1..3 the code of right-hand symbol pos.", BoundaryRuleReadTest::rightHandSide);
@@ -18,11 +19,15 @@ public final class BoundaryRuleReadTest {
         Check.sentence("4: It answers NONE if pos is not in 0..3.", BoundaryRuleReadTest::noSuchPlace);
         Check.sentence("4: Changes nothing.", BoundaryRuleReadTest::symbolChangesNothing);
         Check.sentence("5: is the link relation over the rules held now.", BoundaryRuleReadTest::rulesHeldNow);
-        Check.sentence("5: no parse is needed and the PARSED flag plays no part.", BoundaryRuleReadTest::withAndWithoutAParse);
+        Check.sentence("5: no parse is needed and the PARSED flag plays no part.",
+            BoundaryRuleReadTest::withAndWithoutAParse);
         Check.sentence("5: a sequence a = S0, S1, .., Sk = b with k >= 0.", BoundaryRuleReadTest::everyLength);
-        Check.sentence("5: some held rule has lhs Si and first right-hand symbol S(i+1).", BoundaryRuleReadTest::firstSymbolsAlone);
-        Check.sentence("5: isLeftCorner(a, a) is true for every nonterminal a, even with no rules.", BoundaryRuleReadTest::itself);
-        Check.sentence("5: It is false whenever a is not a nonterminal code below NT.", BoundaryRuleReadTest::wrongFrom);
+        Check.sentence("5: some held rule has lhs Si and first right-hand symbol S(i+1).",
+            BoundaryRuleReadTest::firstSymbolsAlone);
+        Check.sentence("5: isLeftCorner(a, a) is true for every nonterminal a, even with no rules.",
+            BoundaryRuleReadTest::itself);
+        Check.sentence("5: It is false whenever a is not a nonterminal code below NT.",
+            BoundaryRuleReadTest::wrongFrom);
         Check.sentence("5: (including every terminal code).", BoundaryRuleReadTest::fromTerminals);
         Check.sentence("5: or b is not valid.", BoundaryRuleReadTest::wrongTo);
         Check.sentence("5: Changes nothing.", BoundaryRuleReadTest::linkChangesNothing);
@@ -126,13 +131,10 @@ public final class BoundaryRuleReadTest {
     }
 
     private static void symbolChangesNothing() {
-        Situations.changesNothing("ruleSymbol", x -> {
-            for (int r = -1; r <= 24; r++) {
-                for (int pos = -1; pos <= 4; pos++) {
-                    x.ruleSymbol(r, pos);
-                }
-            }
-        });
+        Situations.changesNothing("ruleSymbol(0, 0)", x -> x.ruleSymbol(0, 0));
+        Situations.changesNothing("ruleSymbol(23, 3)", x -> x.ruleSymbol(23, 3));
+        Situations.changesNothing("ruleSymbol(24, 0)", x -> x.ruleSymbol(24, 0));
+        Situations.changesNothing("ruleSymbol(0, -1)", x -> x.ruleSymbol(0, -1));
     }
 
     private static void link(LeftCorner x, int a, int b, boolean want) {
@@ -289,12 +291,9 @@ public final class BoundaryRuleReadTest {
     }
 
     private static void linkChangesNothing() {
-        Situations.changesNothing("isLeftCorner", x -> {
-            for (int a = -1; a < 17; a++) {
-                for (int b = -1; b < 17; b++) {
-                    x.isLeftCorner(a, b);
-                }
-            }
-        });
+        Situations.changesNothing("isLeftCorner(0, 8)", x -> x.isLeftCorner(0, 8));
+        Situations.changesNothing("isLeftCorner(1, 0)", x -> x.isLeftCorner(1, 0));
+        Situations.changesNothing("isLeftCorner(2, 2)", x -> x.isLeftCorner(2, 2));
+        Situations.changesNothing("isLeftCorner(0, -1)", x -> x.isLeftCorner(0, -1));
     }
 }

@@ -17,8 +17,10 @@ public final class BoundarySelectTest {
         Check.sentence("Tree order: pairs are compared by e - s first.", BoundarySelectTest::lengthFirst);
         Check.sentence("Tree order: then by r.", BoundarySelectTest::thenRule);
         Check.sentence("Tree order: a node before its children, children left to right.", BoundarySelectTest::preorder);
-        Check.sentence("Tree order: No signature of a tree of the input is a proper prefix of another.", BoundarySelectTest::noPrefix);
-        Check.sentence("Tree order: rank k (0 <= k < N) has exactly k trees of smaller signature before it.", BoundarySelectTest::exactlyKBefore);
+        Check.sentence("Tree order: No signature of a tree of the input is a proper prefix of another.",
+            BoundarySelectTest::noPrefix);
+        Check.sentence("Tree order: rank k (0 <= k < N) has exactly k trees of smaller signature before it.",
+            BoundarySelectTest::exactlyKBefore);
         Check.sentence("12.1: Not PARSED: answers ERR_STATE.", BoundarySelectTest::notParsed);
         Check.sentence("12: Conditions in order.", BoundarySelectTest::stateBeforeRange);
         Check.sentence("12.2: count() = CAP: answers ERR_RANGE.", BoundarySelectTest::saturated);
@@ -28,16 +30,20 @@ public final class BoundarySelectTest {
         Check.sentence("12.2: every rank is refused when count() is CAP.", BoundarySelectTest::everyRankOfCap);
         Check.sentence("12: A refusal changes nothing.", BoundarySelectTest::refusalChangesNothing);
         Check.sentence("12: an earlier selection stays selected.", BoundarySelectTest::earlierSelectionStays);
-        Check.sentence("12: the tree of rank becomes the selection, replacing any earlier one.", BoundarySelectTest::replaces);
-        Check.sentence("12: its nonterminal nodes are numbered 0, 1, .. in preorder (node 0 is the root).", BoundarySelectTest::numbersOfNodes);
+        Check.sentence("12: the tree of rank becomes the selection, replacing any earlier one.",
+            BoundarySelectTest::replaces);
+        Check.sentence("12: its nonterminal nodes are numbered 0, 1, .. in preorder (node 0 is the root).",
+            BoundarySelectTest::numbersOfNodes);
         Check.sentence("12: their number nodes >= 1 is answered.", BoundarySelectTest::numberIsAnswered);
         Check.sentence("12: Rules, input, PARSED flag and stored count are unchanged.", BoundarySelectTest::restStays);
         Check.sentence("12: for every k with 0 <= k < count(), selectTree(k) succeeds.", BoundarySelectTest::everyRank);
-        Check.sentence("12: form the preorder node list of a parse tree of the current input.", BoundarySelectTest::parseTrees);
+        Check.sentence("12: form the preorder node list of a parse tree of the current input.",
+            BoundarySelectTest::parseTrees);
         Check.sentence("12: until the selection is replaced or cleared.", BoundarySelectTest::staysUntil);
         Check.sentence("12: the trees selected for different k are different.", BoundarySelectTest::differentTrees);
         Check.sentence("12: their signatures strictly increase with k.", BoundarySelectTest::increasing);
-        Check.sentence("12: every parse tree of the current input is selected by some k.", BoundarySelectTest::everyTree);
+        Check.sentence("12: every parse tree of the current input is selected by some k.",
+            BoundarySelectTest::everyTree);
         Check.sentence("12: Selecting the same rank again gives the same tree.", BoundarySelectTest::sameAgain);
         Check.sentence("13: selectedRank() answers the rank of the selected tree.", BoundarySelectTest::rankOfTheTree);
         Check.sentence("13: or NONE if none is selected.", BoundarySelectTest::noRank);
@@ -257,16 +263,17 @@ public final class BoundarySelectTest {
     }
 
     private static void refusalChangesNothing() {
-        Situations.changesNothing("refused selectTree", x -> {
-            int want = x.count() == ERR_STATE ? ERR_STATE : ERR_RANGE;
-            for (int rank : BELOW) {
-                select(x, rank, want);
-            }
-            for (int rank : ABOVE) {
-                select(x, rank, want);
-            }
-            if (x.count() != CAP) {
-                select(x, Math.max(x.count(), 0), want);
+        for (int rank : new int[] {Integer.MIN_VALUE, -1, CAP - 1, CAP, Integer.MAX_VALUE}) {
+            Situations.changesNothing("selectTree(" + rank + ")", x -> {
+                select(x, rank, x.count() == ERR_STATE ? ERR_STATE : ERR_RANGE);
+            });
+        }
+        Situations.changesNothing("selectTree(count)", x -> {
+            select(x, x.count(), x.count() == ERR_STATE ? ERR_STATE : ERR_RANGE);
+        });
+        Situations.changesNothing("selectTree(0) without a tree", x -> {
+            if (x.count() <= 0 || x.count() == CAP) {
+                select(x, 0, x.count() == ERR_STATE ? ERR_STATE : ERR_RANGE);
             }
         });
     }
@@ -276,11 +283,10 @@ public final class BoundarySelectTest {
         for (int rank = 0; rank < 14; rank++) {
             select(x, rank, 9);
             List<Integer> selection = State.selection(x);
-            select(x, 14, ERR_RANGE);
-            select(x, -1, ERR_RANGE);
-            select(x, Integer.MAX_VALUE, ERR_RANGE);
-            select(x, Integer.MIN_VALUE, ERR_RANGE);
-            Check.due("selection " + rank, State.selection(x), selection);
+            for (int refused : new int[] {14, -1, Integer.MAX_VALUE, Integer.MIN_VALUE}) {
+                select(x, refused, ERR_RANGE);
+                Check.due("selection " + rank, State.selection(x), selection);
+            }
         }
     }
 

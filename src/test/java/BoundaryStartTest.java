@@ -1,4 +1,5 @@
 import java.util.Random;
+import java.util.function.ToIntFunction;
 
 /** The boundary cases of "What it is" that hold before any parse, and of promise 1, sentence by sentence. */
 public final class BoundaryStartTest {
@@ -11,16 +12,22 @@ public final class BoundaryStartTest {
 
     public static void main(String[] args) {
         Check.sentence("Symbols: Nonterminal k (0 <= k < NT) has code k.", BoundaryStartTest::nonterminalCodes);
-        Check.sentence("Symbols: Terminal t (0 <= t < T) has code TERMINAL_BASE + t.", BoundaryStartTest::terminalCodes);
+        Check.sentence("Symbols: Terminal t (0 <= t < T) has code TERMINAL_BASE + t.",
+            BoundaryStartTest::terminalCodes);
         Check.sentence("Symbols: every other int (negative values) is not valid.", BoundaryStartTest::negativeCodes);
         Check.sentence("Symbols: every other int (NONE) is not valid.", BoundaryStartTest::noneIsNoCode);
-        Check.sentence("Symbols: every other int (codes NT..TERMINAL_BASE-1) is not valid.", BoundaryStartTest::codesBetween);
-        Check.sentence("Symbols: every other int (codes at or above TERMINAL_BASE + T) is not valid.", BoundaryStartTest::codesAbove);
+        Check.sentence("Symbols: every other int (codes NT..TERMINAL_BASE-1) is not valid.",
+            BoundaryStartTest::codesBetween);
+        Check.sentence("Symbols: every other int (codes at or above TERMINAL_BASE + T) is not valid.",
+            BoundaryStartTest::codesAbove);
         Check.sentence("Symbols: Nonterminal 0 is the start symbol.", BoundaryStartTest::startSymbol);
-        Check.sentence("Symbols: Input tokens are given as terminal numbers t, not codes.", BoundaryStartTest::tokensAreNumbers);
+        Check.sentence("Symbols: Input tokens are given as terminal numbers t, not codes.",
+            BoundaryStartTest::tokensAreNumbers);
         Check.sentence("Rules: lhs a nonterminal and 1 <= m <= 3 valid symbols.", BoundaryStartTest::lengthsOfRules);
-        Check.sentence("Rules: numbered 0, 1, 2, .. in the order they were accepted.", BoundaryStartTest::refusedRulesTakeNoNumber);
-        Check.sentence("Rules: Identical rules may be added; they count as different rules.", BoundaryStartTest::identicalRules);
+        Check.sentence("Rules: numbered 0, 1, 2, .. in the order they were accepted.",
+            BoundaryStartTest::refusedRulesTakeNoNumber);
+        Check.sentence("Rules: Identical rules may be added; they count as different rules.",
+            BoundaryStartTest::identicalRules);
         Check.sentence("Rules: The rule set never holds a unit cycle.", BoundaryStartTest::neverAUnitCycle);
         Check.sentence("State: Rules (at most MAX_RULES).", BoundaryStartTest::mostRules);
         Check.sentence("State: input (at most MAX_INPUT tokens).", BoundaryStartTest::mostTokens);
@@ -29,13 +36,16 @@ public final class BoundaryStartTest {
         Check.sentence("1: a value below the least becomes the least.", BoundaryStartTest::tooSmall);
         Check.sentence("1: a value above the greatest becomes the greatest.", BoundaryStartTest::tooLarge);
         Check.sentence("1: any value in range is kept.", BoundaryStartTest::inRange);
-        Check.sentence("1: This holds for every int, including Integer.MIN_VALUE and Integer.MAX_VALUE.", BoundaryStartTest::extremes);
+        Check.sentence("1: This holds for every int, including Integer.MIN_VALUE and Integer.MAX_VALUE.",
+            BoundaryStartTest::extremes);
         Check.sentence("1: NT and T never change afterwards.", BoundaryStartTest::sizesStay);
         Check.sentence("1: A fresh object has no rules (ruleCount() = 0).", BoundaryStartTest::freshRules);
         Check.sentence("1: A fresh object has empty input (inputLength() = 0).", BoundaryStartTest::freshInput);
         Check.sentence("1: A fresh object is not parsed (count() answers ERR_STATE).", BoundaryStartTest::freshCount);
-        Check.sentence("1: A fresh object has no selection (selectedRank() answers NONE).", BoundaryStartTest::freshRank);
-        Check.sentence("1: A fresh object has no selection (every node getter answers NONE).", BoundaryStartTest::freshNodes);
+        Check.sentence("1: A fresh object has no selection (selectedRank() answers NONE).",
+            BoundaryStartTest::freshRank);
+        Check.sentence("1: A fresh object has no selection (every node getter answers NONE).",
+            BoundaryStartTest::freshNodes);
         Check.finish();
     }
 
@@ -221,19 +231,17 @@ public final class BoundaryStartTest {
     }
 
     private static void refusedCalls() {
-        Situations.changesNothing("all kinds of refused calls", x -> {
-            Check.due("addRule, symbol", x.addRule(2, 8, NONE, NONE), ERR_SYMBOL);
-            Check.due("addToken, symbol", x.addToken(2), ERR_SYMBOL);
-            Check.due("addRule, cycle or full", x.addRule(1, 1, NONE, NONE) < 0, true);
-            Check.due("selectTree", x.selectTree(-1) < 0, true);
-            Check.due("selectTree", x.selectTree(LeftCorner.CAP) < 0, true);
-            if (x.inputLength() == LeftCorner.MAX_INPUT) {
-                Check.due("addToken, full", x.addToken(0), LeftCorner.ERR_FULL);
-            }
-            if (x.ruleCount() == LeftCorner.MAX_RULES) {
-                Check.due("addRule, full", x.addRule(0, 8, NONE, NONE), LeftCorner.ERR_FULL);
-            }
-        });
+        refused("addRule(2, 8, -1, -1)", x -> x.addRule(2, 8, NONE, NONE));
+        refused("addRule(1, 1, -1, -1)", x -> x.addRule(1, 1, NONE, NONE));
+        refused("addRule when full", x -> x.ruleCount() == 24 ? x.addRule(0, 8, NONE, NONE) : NONE);
+        refused("addToken(2)", x -> x.addToken(2));
+        refused("addToken when full", x -> x.inputLength() == 12 ? x.addToken(0) : NONE);
+        refused("selectTree(-1)", x -> x.selectTree(-1));
+        refused("selectTree(CAP)", x -> x.selectTree(LeftCorner.CAP));
+    }
+
+    private static void refused(String call, ToIntFunction<LeftCorner> made) {
+        Situations.changesNothing(call, x -> Check.due(call + " is refused", made.applyAsInt(x) < 0, true));
     }
 
     private static void neverFails() {

@@ -1,11 +1,12 @@
 import java.util.List;
 import java.util.function.Consumer;
+import java.util.function.Function;
 
 /** An object in each of the states that the document tells apart, for what must hold in all of them. */
 final class Situations {
     static final int NONTERMINALS = 2;
     static final int TERMINALS = 2;
-    static final int NUMBER = 14;
+    static final int NUMBER = 15;
 
     private static final int MOST_SELECTED = 60;
 
@@ -15,7 +16,8 @@ final class Situations {
     static String name(int which) {
         return List.of("fresh", "rules, no input", "input, no rules", "not parsed", "empty input parsed",
             "parsed without a tree", "parsed", "first tree selected", "last tree selected", "saturated",
-            "full of rules, selected", "full of tokens, selected", "input cleared", "parsed, then a rule more")
+            "full of rules, selected", "full of tokens, selected", "input cleared", "parsed, then a rule more",
+            "full of both, not parsed")
             .get(which);
     }
 
@@ -32,28 +34,36 @@ final class Situations {
             case 7: return selected(sums(4), 5, 0);
             case 8: return selected(sums(4), 5, 4);
             case 9: return parsed(manyTrees(), LeftCorner.CAP);
-            case 10: return selected(fullOfRules(), 22, 21);
+            case 10: return selected(fullOfRules(3), 16, 15);
             case 11: return selected(sums(12), 58786, 12345);
             case 12: return cleared(selected(sums(4), 5, 3));
-            default: return changed(selected(sums(4), 5, 3));
+            case 13: return changed(selected(sums(4), 5, 3));
+            default: return fullOfRules(12);
         }
     }
 
     /** Makes the call in every situation; nothing may be otherwise than without it. */
     static void changesNothing(String call, Consumer<LeftCorner> made) {
         for (int which = 0; which < NUMBER; which++) {
+            String what = name(which) + ", after " + call;
+            for (Function<LeftCorner, List<Integer>> view : State.VIEWS) {
+                // On new objects each time, since a view that changes something could hide it from the next.
+                LeftCorner x = make(which);
+                made.accept(x);
+                Check.due(what, view.apply(x), view.apply(make(which)));
+            }
             LeftCorner x = make(which);
             made.accept(x);
-            alike(name(which) + ", after " + call, x, make(which));
+            alike(what, x, make(which));
         }
     }
 
     /** Reads all of both, then lets both go on, for what can't be read may still show later. */
     static void alike(String what, LeftCorner x, LeftCorner twin) {
         Check.due(what, State.of(x), State.of(twin));
-        Check.due(what + ", links", links(x), links(twin));
-        int ranks = Math.min(twin.count(), MOST_SELECTED);
-        for (int rank = 0; rank < ranks; rank++) {
+        Check.due(what + ", links", State.links(x), State.links(twin));
+        int count = twin.count();
+        for (int rank = 0; rank < count && count < LeftCorner.CAP; rank += 1 + count / MOST_SELECTED) {
             Check.due(what + ", selectTree(" + rank + ")", x.selectTree(rank), twin.selectTree(rank));
             Check.due(what + ", tree " + rank, State.selection(x), State.selection(twin));
         }
@@ -88,9 +98,10 @@ final class Situations {
         return x;
     }
 
-    private static LeftCorner fullOfRules() {
-        LeftCorner x = sums(1);
-        Grammars.copies(x, LeftCorner.MAX_RULES - 3, 1, 8);
+    private static LeftCorner fullOfRules(int n) {
+        LeftCorner x = sums(n);
+        Grammars.copies(x, LeftCorner.MAX_RULES - 4, 1, 9);
+        Grammars.rule(x, 1, 8);
         return x;
     }
 
@@ -113,15 +124,5 @@ final class Situations {
     private static LeftCorner changed(LeftCorner x) {
         Grammars.rule(x, 0, 8, 8);
         return x;
-    }
-
-    private static String links(LeftCorner x) {
-        StringBuilder links = new StringBuilder();
-        for (int a = -1; a < 17; a++) {
-            for (int b = -1; b < 17; b++) {
-                links.append(x.isLeftCorner(a, b) ? '1' : '0');
-            }
-        }
-        return links.toString();
     }
 }
